@@ -438,7 +438,8 @@ public final class CellFinder {
         if (!isWithin(n, 1, 400) || n > line.left()) {
             return CANNOT_BE;
         }
-        return bitsTillSure(n);
+        paper.mirror(receiver);
+        return bitsTillSure(line.at + n);
     }
 
     public int spread(int i, int k) {
@@ -539,7 +540,9 @@ public final class CellFinder {
         int most = 0;
         int fell = 0;
         for (int i = 0; i < STARTS_OF; i++) {
-            int took = bitsFromFresh(line.at + i);
+            paper.mirror(receiver);
+            paper.restart();
+            int took = bitsTillSure(line.at + i);
             if (took != NONE) {
                 sure++;
                 together += took;
@@ -585,7 +588,8 @@ public final class CellFinder {
         int many = 0;
         int end = Math.min(LATEST_OF, line.left());
         for (int n = 1; n <= end; n++) {
-            int took = bitsTillSure(n);
+            paper.mirror(receiver);
+            int took = bitsTillSure(line.at + n);
             if (took != NONE) {
                 many++;
             }
@@ -760,18 +764,8 @@ public final class CellFinder {
         return sender.firstLike(log.cells.entry(k, 0), log.loads, log.loadStart(k), terms[TERM_LOAD]);
     }
 
-    private int bitsTillSure(int lostBits) {
-        paper.mirror(receiver);
-        return runTillSure(line.at + lostBits);
-    }
-
-    private int bitsFromFresh(int from) {
-        paper.mirror(receiver);
-        paper.restart();
-        return runTillSure(from);
-    }
-
-    private int runTillSure(int from) {
+    /** How many bits the receiver on paper takes from there on till it becomes SURE. */
+    private int bitsTillSure(int from) {
         int before = paper.counts[BECAME_SURE];
         for (int place = from; place < line.size; place++) {
             paper.receive(line.bitAt(place), place + 1);
@@ -1059,15 +1053,19 @@ public final class CellFinder {
         private final int kept;
         private final int[] entries;
         int total;
+        /** The slot of the number that comes next. */
+        int next;
 
         Ring(int kept) {
             this.kept = Math.max(1, kept);
             entries = new int[3 * this.kept];
             total = 0;
+            next = 0;
         }
 
         void clear() {
             total = 0;
+            next = 0;
         }
 
         int firstKept() {
@@ -1088,12 +1086,13 @@ public final class CellFinder {
         }
 
         void add(int a, int b, int c) {
-            int i = 3 * slotOf(total);
-            if (i + 2 < entries.length) {
+            int i = 3 * next;
+            if (i >= 0 && i + 2 < entries.length) {
                 entries[i] = a;
                 entries[i + 1] = b;
                 entries[i + 2] = c;
             }
+            next = next + 1 < kept ? next + 1 : 0;
             total++;
         }
     }
@@ -1128,8 +1127,8 @@ public final class CellFinder {
         }
 
         void addCell(int header, int mended, int place, byte[] load) {
-            int start = loadStart(cells.total);
-            if (load.length <= loads.length - start) {
+            int start = LOAD_BYTES * cells.next;
+            if (start >= 0 && load.length <= loads.length - start) {
                 System.arraycopy(load, 0, loads, start, load.length);
             }
             cells.add(header, mended, place);
@@ -1231,7 +1230,10 @@ public final class CellFinder {
                 if (spot < loadBits()) {
                     carry(bit);
                 } else {
-                    readHead(at);
+                    spot++;
+                    if (spot - loadBits() == HEAD_BITS) {
+                        judge(at);
+                    }
                 }
             }
             watch(before == SURE);
@@ -1260,15 +1262,14 @@ public final class CellFinder {
         }
 
         private void endLoad() {
-            if (good && terms[TERM_IDLES] == 1 && header == IDLE_HEADER) {
-                counts[IDLE]++;
-            } else if (good) {
-                deliver();
+            if (!good) {
+                return;
             }
             good = false;
-        }
-
-        private void deliver() {
+            if (terms[TERM_IDLES] == 1 && header == IDLE_HEADER) {
+                counts[IDLE]++;
+                return;
+            }
             counts[DELIVERED]++;
             if (sender.firstLike(header, load, 0, terms[TERM_LOAD]) == NONE) {
                 counts[STRANGE]++;
@@ -1278,15 +1279,8 @@ public final class CellFinder {
             }
         }
 
-        private void readHead(int at) {
-            spot++;
-            if (spot - loadBits() == HEAD_BITS) {
-                spot = 0;
-                judge(at);
-            }
-        }
-
         private void judge(int at) {
+            spot = 0;
             int syndrome = window.syndromeNow();
             header = window.headerNow();
             mended = 0;

@@ -149,6 +149,12 @@ public final class PromiseTest {
         due("no room", y.send(7, 1), -4);
         due("-3 first", y.send(7, -1), -3);
         due("bits", y.told(0), 22 * 424);
+        CellFinder v = full();
+        v.terms(0, 4);
+        v.drop(0, 72);
+        due("just room", v.send(7, 1), 0);
+        v.drop(0, 71);
+        due("one bit short", v.send(7, 1), -4);
         CellFinder z = sending(64);
         due("64 were sent", z.send(1, 1), -4);
         due("sent", z.told(2), 64);
@@ -259,6 +265,8 @@ public final class PromiseTest {
         due("-2 first", x.disturb(-1, 0, 0, -1), -2);
         due("n 0", x.disturb(0, 0, 1, 0), -3);
         due("n 9", x.disturb(0, 9, 1, 0), -3);
+        due("not so many from there on", x.disturb(7, 2, 1, 0), -3);
+        due("k 1000", x.disturb(0, 1, 1000, 0), 0);
         due("k 0", x.disturb(0, 1, 0, 0), -3);
         due("k 1001", x.disturb(0, 1, 1001, 0), -3);
         due("seed -1", x.disturb(0, 1, 1, -1), -3);
@@ -391,6 +399,16 @@ public final class PromiseTest {
         v.take(41);
         v.terms(6, 3);
         due("at 42", v.take(1), 1);
+        // steps count from HUNT on: lost behind 184, 72 bits on is a multiple of 8, of 5 it isn't
+        for (int step = 5; step <= 8; step += 3) {
+            CellFinder w = small();
+            w.rest(5);
+            w.terms(1, 1);
+            w.flip(72 * 2 + 2);
+            w.take(72 * 2 + 40);
+            w.terms(6, step);
+            due("by steps of " + step, w.take(72), step == 8 ? 1 : 0);
+        }
     }
 
     static void promise14() {
@@ -421,6 +439,24 @@ public final class PromiseTest {
         due("alarm", x.state(9), 1);
         x.fresh();
         due("alarm is down", x.state(9), 0);
+        // RIGHT, WRONG, MODE, and bits of HUNT by which STEP counts
+        CellFinder y = sending(4);
+        y.terms(3, 0);
+        y.flip(72 * 2 + 5);
+        y.take(72 * 2 + 45);
+        due("RIGHT", y.state(1), 1);
+        due("WRONG", y.state(2), 1);
+        y.fresh();
+        due("RIGHT", y.state(1), 0);
+        due("WRONG", y.state(2), 0);
+        due("MODE", y.state(3), 0);
+        CellFinder z = sending(2);
+        z.bits(3, 0);
+        z.terms(6, 5);
+        z.slip(0, 3, 0);
+        z.take(3);
+        z.fresh();
+        due("steps from FRESH on", z.take(40), 1);
     }
 
     static void promise15() {
@@ -515,6 +551,25 @@ public final class PromiseTest {
         x.take(72);
         due("WRONG again 0", x.state(2), 0);
         due("MENDING", x.state(3), 1);
+        // RIGHT is 0 again as it comes to NEAR anew
+        CellFinder y = small();
+        y.terms(2, 3);
+        y.rest(5);
+        y.flip(72 * 2 + 2);
+        y.take(72 * 2 + 40);
+        due("RIGHT as it was told", y.state(1), 1);
+        due("HUNT", y.state(0), 0);
+        y.take(72);
+        due("NEAR", y.state(0), 1);
+        due("RIGHT", y.state(1), 0);
+        // by HUNT MODE stays as it was told
+        CellFinder z = sending(3);
+        z.terms(1, 1);
+        z.flip(72 * 2 + 2);
+        z.take(72 * 2 + 40);
+        due("HUNT", z.state(0), 0);
+        due("WRONG", z.state(2), 1);
+        due("MODE", z.state(3), 1);
         due("state(11)", x.state(11), -2);
         due("state(-1)", x.state(-1), -2);
     }
@@ -573,6 +628,7 @@ public final class PromiseTest {
         due("header as mended", y.delivered(1, 0), 102);
         due("found", y.delivered(1, 3), 2);
         due("not mended", y.delivered(0, 1), 0);
+        due("not mended either", y.delivered(2, 1), 0);
         due("strange", y.delivered(2, 3), -1);
         // FOUND is of what is SENT now, and the first of like ones
         CellFinder z = small();
@@ -768,6 +824,17 @@ public final class PromiseTest {
         CellFinder z = sending(2);
         z.drop(112, 32);
         due("with the last bit", z.until(2), 112);
+        z.drop(111, 1);
+        due("one bit short", z.until(2), -1);
+        // on paper it goes on just as it would: hunting by steps, nearly sure, seeing
+        CellFinder v = sending(2);
+        v.slip(0, 3, 0);
+        v.terms(6, 5);
+        v.take(2);
+        due("43 is no step, 115 is one", v.until(1), 115 - 2);
+        v.terms(6, 1);
+        v.take(60);
+        due("RIGHT goes on", v.until(2), 112 + 3 - 62);
     }
 
     static void promise27() {
@@ -780,6 +847,19 @@ public final class PromiseTest {
         due("STATE", x.would(72 * 3 + 4, 4), 2);
         due("strange", x.would(72 * 3 + 4, 5), 0);
         due("load bit: strange", x.would(72 * 3 + 40, 5), 2);
+        CellFinder y = sending(6);
+        y.terms(1, 3);
+        y.flip(72 * 2 + 5);
+        y.take(72 * 2 + 50);
+        due("SEEING: dropped", y.would(72 * 3 + 4, 2), 1);
+        due("GOOD: delivered", y.would(72 * 3 + 4, 0), 4);
+        y.terms(1, 2);
+        due("WRONG goes on", y.would(72 * 3 + 4, 3), 1);
+        CellFinder z = small();
+        z.terms(2, 2);
+        z.rest(4);
+        z.take(120);
+        due("RIGHT goes on", z.would(72 * 3 + 71, 0), 2);
         x.terms(3, 0);
         due("dropped", x.would(72 * 3 + 4, 2), 1);
         due("delivered", x.would(72 * 3 + 4, 0), 4);
@@ -851,6 +931,13 @@ public final class PromiseTest {
         due("none there", new CellFinder().regained(1), -3);
         CellFinder z = sending(16);
         due("400", z.regained(400), 72 * 7 + 40 - 400);
+        CellFinder v = small();
+        v.bits(1, 0);
+        v.rest(2);
+        v.drop(113, 32);
+        due("with the last bit", v.regained(1), 112);
+        v.drop(112, 1);
+        due("one bit short", v.regained(1), -1);
         due("401", z.regained(401), -3);
     }
 
@@ -864,6 +951,8 @@ public final class PromiseTest {
         due("no more", x.spread(113, 2), -1);
         due("at the end of it", x.spread(143, 1), 256 + 43 - 33);
         due("the last one", x.spread(359, -1), 1);
+        due("the first one", x.spread(112, -1), 2);
+        due("43 load bits on", x.spread(112, 1), 184 + 43 - 32);
         due("a header bit", x.spread(150, -1), 0);
         due("a header bit", x.spread(150, 0), -1);
         due("none such", x.spread(360, -1), -2);
@@ -921,6 +1010,13 @@ public final class PromiseTest {
         due("none", y.phase(1), -1);
         y.feed(0, 0, 0, 0, 0);
         due("none looks right", y.phase(1), -1);
+        CellFinder v = small();
+        v.bits(1, 1);
+        v.rest(1);
+        v.drop(41, 32);
+        due("with the last bit", v.phase(0), 1);
+        v.drop(40, 1);
+        due("one bit short", v.phase(0), -1);
         // two phases with two each: the first of like ones, though the other comes ahead of it
         CellFinder z = small();
         z.bits(10, 0);
@@ -961,6 +1057,15 @@ public final class PromiseTest {
         z.stages(2047, -1);
         due("one strange", z.tuned(2), 2);
         due("nothing there", new CellFinder().tuned(2), 1);
+        // by MENDS 1 one more is delivered as sent, one as a strange one: twice that is alike
+        CellFinder v = sending(14);
+        v.take(112);
+        v.flip(72 * 5 + 1);
+        v.flip(72 * 7 + 1);
+        v.flip(72 * 7 + 40 + 5);
+        due("one for one strange", v.tuned(3), 0);
+        v.flip(72 * 3 + 1);
+        due("two for one strange", v.tuned(3), 1);
     }
 
     static void promise34() {
