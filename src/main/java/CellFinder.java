@@ -1365,7 +1365,7 @@ public final class CellFinder {
         private static final int DIVISOR = 263;
         /** The row that a check is told unlike of. */
         static final int ALIKE = 85;
-        /** The eight bits of the check alone make every syndrome. */
+        /** The eight bits of the check alone make every syndrome; four of all are enough. */
         private static final int MOST = 8;
         private final int[] shares = new int[HEAD_BITS];
         private final int[] row = new int[MOST];
@@ -1434,13 +1434,11 @@ public final class CellFinder {
 
         /** Leaves the first row of the fewest bits behind, for chosen(). */
         int fewestFor(int syndrome) {
-            for (int many = 0; many < MOST; many++) {
-                if (canChoose(syndrome, 0, many, 0)) {
-                    return many;
-                }
+            int many = 0;
+            while (many < MOST && !canChoose(syndrome, 0, many, 0)) {
+                many++;
             }
-            canChoose(syndrome, 0, MOST, 0);
-            return MOST;
+            return many;
         }
 
         int chosen(int k) {
