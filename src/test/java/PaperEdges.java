@@ -327,6 +327,13 @@ final class PaperEdges extends Edges {
         due(behind(run).spread(276, NONE), 2);
         due(behind(run).spread(276, 1), 359);
         due(behind(run).spread(277, NONE), 1);
+        // THE LINE ends within a LOAD: what would come 43 load bits behind 267 is the first bit that isn't there
+        Finder ended = behind(run);
+        ended.drop(350, 10);
+        due(ended.spread(266, NONE), 2);
+        due(ended.spread(266, 1), 349);
+        due(ended.spread(267, NONE), 1);
+        due(ended.spread(349, NONE), 1);
         // a mended header bit: nothing
         due(behind(run).spread(144, NONE), 0);
         quiet(NONE, run, x -> x.spread(144, 0));
@@ -434,6 +441,10 @@ final class PaperEdges extends Edges {
         refused(CANNOT_BE, few, x -> x.rights(0, 1, -2));
         refused(CANNOT_BE, few, x -> x.rights(0, 1, LEAST));
         refused(NO_SUCH, x -> { }, x -> x.rights(0, 1, NONE));
+        // each call looks at its own bits alone: the first ends within the second header, the next begins within the first
+        Finder v = behind(x -> plain(x, 4));
+        due(v.rights(0, 72 + 20 - 39, NONE), 1);
+        due(v.rights(20, 1, NONE), 0);
         // what was taken is there still; 39 bits at the end are too few
         y.take(100);
         due(y.rights(0, 1, NONE), 1);
@@ -466,6 +477,16 @@ final class PaperEdges extends Edges {
         }
         quiet(NONE, y -> { }, y -> y.phase(0));
         quiet(NONE, Edges::fill, y -> y.phase(1));
+        // each call looks at its own bits alone: 20 of a header at the end, 20 of another at AT
+        Finder own = behind(y -> {
+            plain(y, 3);
+            y.drop(72 * 2 + 20, 72 - 20);
+        });
+        due(own.phase(1), 2);
+        own.take(20);
+        due(own.phase(1), 1);
+        due(own.phase(1), 1);
+        due(own.phase(0), 52);
         // the last place of which all 40 are there
         Finder z = behind(y -> rightAt(y, 7));
         due(z.phase(0), 7);
@@ -502,7 +523,16 @@ final class PaperEdges extends Edges {
         });
         due(z.phase(0), 8);
         due(z.phase(1), 1);
-        // the greatest phase
+        // each phase of a small cell, and the greatest of all
+        for (int phase = 0; phase < 80; phase++) {
+            int place = phase;
+            Finder u = behind(y -> {
+                y.terms(0, 4);
+                rightAt(y, place);
+            });
+            due(u.phase(0), phase % 72);
+            due(u.phase(1), 1);
+        }
         Finder v = behind(y -> rightAt(y, 423));
         due(v.phase(0), 423);
         Finder w = behind(y -> rightAt(y, 424));

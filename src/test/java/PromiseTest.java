@@ -28,8 +28,8 @@ public final class PromiseTest {
     }
 
     /** Cells of four bytes (72 bits), sure behind two checks in a row, lost by two. */
-    private static CellFinder small() {
-        CellFinder x = new CellFinder();
+    private static Finder small() {
+        Finder x = new Finder();
         x.terms(0, 4);
         x.terms(1, 2);
         x.terms(2, 1);
@@ -38,23 +38,31 @@ public final class PromiseTest {
     }
 
     /** Headers 100, 101 and on, seeds 0, 1 and on. */
-    private static CellFinder sending(int cells) {
-        CellFinder x = small();
+    private static Finder sending(int cells) {
+        Finder x = small();
         for (int i = 0; i < cells; i++) {
             x.send(100 + i, i);
         }
         return x;
     }
 
-    private static CellFinder full() {
-        CellFinder x = new CellFinder();
+    /** ALPHA and DELTA as told. */
+    private static Finder byTerm(int term) {
+        Finder x = new Finder();
+        x.terms(1, term);
+        x.terms(2, term);
+        return x;
+    }
+
+    private static Finder full() {
+        Finder x = new Finder();
         for (int i = 0; i < 60; i++) {
             x.feed(0, 0, 0, 0, 0);
         }
         return x;
     }
 
-    private static long numberAt(CellFinder x, int i, int n) {
+    private static long numberAt(Finder x, int i, int n) {
         long v = 0;
         for (int j = 0; j < n; j++) {
             v = 2 * v + x.bit(i + j);
@@ -63,7 +71,7 @@ public final class PromiseTest {
     }
 
     static void promise1() {
-        CellFinder x = new CellFinder();
+        Finder x = new Finder();
         int[] first = {48, 7, 6, 1, 800, 0, 1};
         for (int i = 0; i < 7; i++) {
             due("term " + i, x.told(10 + i), first[i]);
@@ -84,7 +92,7 @@ public final class PromiseTest {
     }
 
     static void promise2() {
-        CellFinder x = new CellFinder();
+        Finder x = new Finder();
         due("feed", x.feed(0x80000001, 0, -2, 7, 0x12345678), 160);
         due("first", numberAt(x, 0, 32), 0x80000001L);
         due("third", numberAt(x, 64, 32), 0xFFFFFFFEL);
@@ -92,7 +100,7 @@ public final class PromiseTest {
         due("fifth", numberAt(x, 128, 32), 0x12345678);
         due("bit(160)", x.bit(160), -1);
         due("again", x.feed(0, 0, 0, 0, 0), 320);
-        CellFinder y = full();
+        Finder y = full();
         due("full", y.told(0), 9600);
         due("too many", y.feed(0, 0, 0, 0, 0), -4);
         y.drop(0, 160);
@@ -103,7 +111,7 @@ public final class PromiseTest {
     }
 
     static void promise3() {
-        CellFinder x = new CellFinder();
+        Finder x = new Finder();
         due("bits(3, 13)", x.bits(3, 13), 3);
         due("lowest three", numberAt(x, 0, 3), 5);
         due("bits(32, -5)", x.bits(32, -5), 35);
@@ -113,7 +121,7 @@ public final class PromiseTest {
         due("bits(0, 1)", x.bits(0, 1), -3);
         due("bits(33, 1)", x.bits(33, 1), -3);
         due("bits(-1, 1)", x.bits(-1, 1), -3);
-        CellFinder y = full();
+        Finder y = full();
         due("-3 first", y.bits(0, 0), -3);
         due("-4", y.bits(1, 0), -4);
         y.drop(0, 5);
@@ -122,7 +130,7 @@ public final class PromiseTest {
     }
 
     static void promise4() {
-        CellFinder x = small();
+        Finder x = small();
         x.terms(0, 6);
         due("send", x.send(0x12345678, 5), 0);
         due("bits", x.told(0), 88);
@@ -142,26 +150,26 @@ public final class PromiseTest {
         due("seed -1", x.send(1, -1), -3);
         due("seed 1000004", x.send(1, 1000004), -3);
         due("seed 1000003", x.send(1, 1000003), 2);
-        CellFinder y = new CellFinder();
+        Finder y = new Finder();
         for (int i = 0; i < 22; i++) {
             due("cell " + i, y.send(7, i), i);
         }
         due("no room", y.send(7, 1), -4);
         due("-3 first", y.send(7, -1), -3);
         due("bits", y.told(0), 22 * 424);
-        CellFinder v = full();
+        Finder v = full();
         v.terms(0, 4);
         v.drop(0, 72);
         due("just room", v.send(7, 1), 0);
         v.drop(0, 71);
         due("one bit short", v.send(7, 1), -4);
-        CellFinder z = sending(64);
+        Finder z = sending(64);
         due("64 were sent", z.send(1, 1), -4);
         due("sent", z.told(2), 64);
     }
 
     static void promise5() {
-        CellFinder x = small();
+        Finder x = small();
         due("rest(2)", x.rest(2), 2);
         due("header 1", numberAt(x, 72, 32), 1);
         due("its check", numberAt(x, 104, 8), 82);
@@ -176,7 +184,7 @@ public final class PromiseTest {
         due("none then", x.told(2), 62);
         due("rest(2)", x.rest(2), 64);
         due("-3 first", x.rest(0), -3);
-        CellFinder y = new CellFinder();
+        Finder y = new Finder();
         due("rest(20)", y.rest(20), 20);
         due("no room", y.rest(3), -4);
         due("none then", y.told(0), 20 * 424);
@@ -184,7 +192,7 @@ public final class PromiseTest {
     }
 
     static void promise6() {
-        CellFinder x = new CellFinder();
+        Finder x = new Finder();
         x.bits(4, 6);
         due("flip(0)", x.flip(0), 1);
         due("flip(0)", x.flip(0), 0);
@@ -199,7 +207,7 @@ public final class PromiseTest {
     }
 
     static void promise7() {
-        CellFinder x = new CellFinder();
+        Finder x = new Finder();
         x.bits(8, 0b10110011);
         due("drop(2, 3)", x.drop(2, 3), 5);
         due("line", numberAt(x, 0, 5), 0b10011);
@@ -214,13 +222,13 @@ public final class PromiseTest {
         due("taken", x.drop(1, 1), -5);
         due("drop(2, 3)", x.drop(2, 3), 2);
         due("AT", x.told(1), 2);
-        CellFinder y = full();
+        Finder y = full();
         due("401", y.drop(0, 401), -3);
         due("400", y.drop(9200, 400), 9200);
     }
 
     static void promise8() {
-        CellFinder x = new CellFinder();
+        Finder x = new Finder();
         due("slip into nothing", x.slip(0, 3, 13), 3);
         due("line", numberAt(x, 0, 3), 5);
         due("slip(1, 2, 3)", x.slip(1, 2, 3), 5);
@@ -236,7 +244,7 @@ public final class PromiseTest {
         due("-3 first", x.slip(0, 33, 0), -3);
         due("taken", x.slip(2, 1, 0), -5);
         due("at AT", x.slip(3, 32, -1), 38);
-        CellFinder y = full();
+        Finder y = full();
         y.take(10);
         due("too many", y.slip(9600, 1, 0), -4);
         due("-4 ahead of -5", y.slip(0, 1, 0), -4);
@@ -244,7 +252,7 @@ public final class PromiseTest {
     }
 
     static void promise9() {
-        CellFinder x = new CellFinder();
+        Finder x = new Finder();
         x.bits(8, 0);
         due("each", x.disturb(1, 6, 1, 9), 6);
         due("line", numberAt(x, 0, 8), 0b01111110);
@@ -252,7 +260,7 @@ public final class PromiseTest {
         long s = 0;
         long want = 0;
         int many = 0;
-        CellFinder y = new CellFinder();
+        Finder y = new Finder();
         y.feed(0, 0, 0, 0, 0);
         for (int i = 0; i < 40; i++) {
             s = (s * 1103 + 12345) % 1000003;
@@ -275,13 +283,13 @@ public final class PromiseTest {
         x.take(1);
         due("-3 first", x.disturb(0, 9, 1, 0), -3);
         due("taken", x.disturb(0, 1, 1, 0), -5);
-        CellFinder z = full();
+        Finder z = full();
         due("2001", z.disturb(0, 2001, 1, 0), -3);
         due("2000", z.disturb(7600, 2000, 1, 0), 2000);
     }
 
     static void promise10() {
-        CellFinder x = new CellFinder();
+        Finder x = new Finder();
         x.bits(2, 2);
         due("bit(0)", x.bit(0), 1);
         due("bit(1)", x.bit(1), 0);
@@ -294,7 +302,7 @@ public final class PromiseTest {
     }
 
     static void promise11() {
-        CellFinder x = sending(4);
+        Finder x = sending(4);
         x.take(230);
         int[] before = new int[14];
         for (int i = 0; i < 14; i++) {
@@ -333,7 +341,7 @@ public final class PromiseTest {
     }
 
     static void promise12() {
-        CellFinder x = new CellFinder();
+        Finder x = new Finder();
         int[] least = {4, 1, 1, 0, 40, 0, 1};
         int[] greatest = {48, 15, 15, 1, 4000, 1, 8};
         for (int i = 0; i < 7; i++) {
@@ -346,14 +354,14 @@ public final class PromiseTest {
         }
         due("terms(7, 1)", x.terms(7, 1), -2);
         due("terms(-1, 1)", x.terms(-1, 1), -2);
-        CellFinder y = sending(1);
+        Finder y = sending(1);
         due("sent", y.terms(0, 5), -5);
         due("-3 first", y.terms(0, 49), -3);
         due("others may", y.terms(1, 3), 2);
         y.take(72);
         y.empty();
         due("NEAR", y.terms(0, 5), -5);
-        CellFinder z = sending(2);
+        Finder z = sending(2);
         z.take(144);
         due("one", z.count(3), 1);
         z.empty();
@@ -363,14 +371,14 @@ public final class PromiseTest {
         due("delivered", z.terms(0, 5), -5);
         z.fresh();
         due("fresh", z.terms(0, 5), 4);
-        CellFinder v = sending(1);
+        Finder v = sending(1);
         v.take(20);
         v.empty();
         due("HUNT, nothing sent", v.terms(0, 48), 4);
     }
 
     static void promise13() {
-        CellFinder x = sending(3);
+        Finder x = sending(3);
         due("take(0)", x.take(0), -3);
         due("take(9601)", x.take(9601), -3);
         due("take(39)", x.take(39), 0);
@@ -383,16 +391,16 @@ public final class PromiseTest {
         due("nothing more", x.take(1), 2);
         due("AT", x.told(1), 216);
         // hunting by steps of 8: the check at 40 is seen, one bit off it isn't
-        CellFinder y = sending(2);
+        Finder y = sending(2);
         y.terms(6, 8);
         due("at 40", y.take(40), 1);
-        CellFinder z = small();
+        Finder z = small();
         z.terms(6, 8);
         z.bits(1, 0);
         z.send(100, 1);
         due("at 41", z.take(41), 0);
         // STEP as it is then: 41 is no multiple of 2, 42 is one of 3 and of 2
-        CellFinder v = small();
+        Finder v = small();
         v.bits(2, 0);
         v.send(100, 1);
         v.terms(6, 4);
@@ -401,7 +409,7 @@ public final class PromiseTest {
         due("at 42", v.take(1), 1);
         // steps count from HUNT on: lost behind 184, 72 bits on is a multiple of 8, of 5 it isn't
         for (int step = 5; step <= 8; step += 3) {
-            CellFinder w = small();
+            Finder w = small();
             w.rest(5);
             w.terms(1, 1);
             w.flip(72 * 2 + 2);
@@ -412,7 +420,7 @@ public final class PromiseTest {
     }
 
     static void promise14() {
-        CellFinder x = sending(4);
+        Finder x = sending(4);
         x.stages(5, 9);
         x.take(250);
         due("fresh", x.fresh(), 2);
@@ -440,7 +448,7 @@ public final class PromiseTest {
         x.fresh();
         due("alarm is down", x.state(9), 0);
         // RIGHT, WRONG, MODE, and bits of HUNT by which STEP counts
-        CellFinder y = sending(4);
+        Finder y = sending(4);
         y.terms(3, 0);
         y.flip(72 * 2 + 5);
         y.take(72 * 2 + 45);
@@ -450,7 +458,7 @@ public final class PromiseTest {
         due("RIGHT", y.state(1), 0);
         due("WRONG", y.state(2), 0);
         due("MODE", y.state(3), 0);
-        CellFinder z = sending(2);
+        Finder z = sending(2);
         z.bits(3, 0);
         z.terms(6, 5);
         z.slip(0, 3, 0);
@@ -460,7 +468,7 @@ public final class PromiseTest {
     }
 
     static void promise15() {
-        CellFinder x = small();
+        Finder x = small();
         x.send(3, 5);
         for (int i = 0; i < 32; i++) {
             due("sender's " + i, x.stage(0, i), x.bit(71 - i));
@@ -482,7 +490,7 @@ public final class PromiseTest {
     }
 
     static void promise16() {
-        CellFinder x = sending(2);
+        Finder x = sending(2);
         due("stages", x.stages(0x403, 0x80000001), 5);
         for (int i = 0; i < 43; i++) {
             due("stage(1, " + i + ")", x.stage(1, i), i == 0 || i == 1 || i == 10 || i == 11 || i == 42 ? 1 : 0);
@@ -497,7 +505,7 @@ public final class PromiseTest {
         x.stages(0, 0);
         x.take(32);
         due("bits as they are", x.load(0, 0), numberAt(x, 112, 8));
-        CellFinder y = sending(2);
+        Finder y = sending(2);
         y.take(112);
         y.stages(0, 0x80000000);
         y.take(32);
@@ -505,7 +513,7 @@ public final class PromiseTest {
     }
 
     static void promise17() {
-        CellFinder x = small();
+        Finder x = small();
         x.terms(1, 3);
         x.terms(2, 2);
         x.rest(7);
@@ -552,7 +560,7 @@ public final class PromiseTest {
         due("WRONG again 0", x.state(2), 0);
         due("MENDING", x.state(3), 1);
         // RIGHT is 0 again as it comes to NEAR anew
-        CellFinder y = small();
+        Finder y = small();
         y.terms(2, 3);
         y.rest(5);
         y.flip(72 * 2 + 2);
@@ -563,7 +571,7 @@ public final class PromiseTest {
         due("NEAR", y.state(0), 1);
         due("RIGHT", y.state(1), 0);
         // by HUNT MODE stays as it was told
-        CellFinder z = sending(3);
+        Finder z = sending(3);
         z.terms(1, 1);
         z.flip(72 * 2 + 2);
         z.take(72 * 2 + 40);
@@ -575,7 +583,7 @@ public final class PromiseTest {
     }
 
     static void promise18() {
-        CellFinder x = small();
+        Finder x = small();
         x.terms(5, 1);
         x.send(7, 1);
         x.rest(2);
@@ -607,7 +615,7 @@ public final class PromiseTest {
     }
 
     static void promise19() {
-        CellFinder x = sending(15);
+        Finder x = sending(15);
         x.flip(72 * 2 + 31);
         x.take(9600);
         due("in all", x.count(3), 14);
@@ -620,7 +628,7 @@ public final class PromiseTest {
         due("-1", x.delivered(-1, 0), -2);
         due("what 4", x.delivered(2, 4), -2);
         due("what -1", x.delivered(2, -1), -2);
-        CellFinder y = sending(4);
+        Finder y = sending(4);
         y.flip(72 * 2 + 31);
         y.flip(72 * 3 + 45);
         y.take(9600);
@@ -631,7 +639,7 @@ public final class PromiseTest {
         due("not mended either", y.delivered(2, 1), 0);
         due("strange", y.delivered(2, 3), -1);
         // FOUND is of what is SENT now, and the first of like ones
-        CellFinder z = small();
+        Finder z = small();
         z.rest(4);
         z.take(9600);
         due("the first of like ones", z.delivered(2, 3), 0);
@@ -644,7 +652,7 @@ public final class PromiseTest {
     }
 
     static void promise20() {
-        CellFinder x = small();
+        Finder x = small();
         x.terms(0, 7);
         x.rest(1);
         x.send(9, 5);
@@ -662,7 +670,7 @@ public final class PromiseTest {
         due("load(2, 0)", x.load(2, 0), -2);
         due("load(-1, 0)", x.load(-1, 0), -2);
         due("-2 first", x.load(2, 99), -2);
-        CellFinder y = sending(15);
+        Finder y = sending(15);
         y.take(9600);
         due("not kept", y.load(1, 0), -2);
         due("kept", y.load(2, 0), (3 * 1103 + 12345) % 256);
@@ -670,7 +678,7 @@ public final class PromiseTest {
     }
 
     static void promise21() {
-        CellFinder x = small();
+        Finder x = small();
         x.rest(1);
         x.send(0xABCDEF97, 5);
         x.send(0x12345678, 5);
@@ -685,14 +693,14 @@ public final class PromiseTest {
         due("what -1", x.field(0, -1), -2);
         due("none such", x.field(2, 0), -2);
         due("-1", x.field(-1, 0), -2);
-        CellFinder y = sending(14);
+        Finder y = sending(14);
         y.take(9600);
         due("not kept", y.field(0, 4), -2);
         due("kept", y.field(1, 4), 102 % 2);
     }
 
     static void promise22() {
-        CellFinder x = sending(6);
+        Finder x = sending(6);
         x.flip(72 * 2 + 39);
         x.flip(72 * 3 + 39);
         x.take(9600);
@@ -708,32 +716,32 @@ public final class PromiseTest {
         due("what -1", x.judged(0, -1), -2);
         due("none such", x.judged(4, 0), -2);
         due("-1", x.judged(-1, 0), -2);
-        CellFinder y = sending(5);
+        Finder y = sending(5);
         y.terms(1, 9);
         y.flip(72 * 2 + 3);
         y.flip(72 * 3 + 3);
         y.take(9600);
         due("MENDING", y.judged(1, 2), 1);
         due("SEEING", y.judged(2, 2), 2);
-        CellFinder z = sending(5);
+        Finder z = sending(5);
         z.terms(1, 9);
         z.terms(3, 0);
         z.flip(72 * 2 + 3);
         z.take(9600);
         due("no MENDS", z.judged(1, 2), 2);
-        CellFinder v = sending(40);
+        Finder v = sending(40);
         v.take(9600);
         due("not kept", v.judged(6, 0), -2);
         due("kept", v.judged(7, 0), 72 * 8);
         due("the latest", v.judged(38, 0), 72 * 39);
-        CellFinder w = sending(3);
+        Finder w = sending(3);
         w.flip(72 + 2);
         w.take(112);
         due("NEAR to HUNT", w.judged(0, 2), 3);
     }
 
     static void promise23() {
-        CellFinder x = sending(6);
+        Finder x = sending(6);
         x.flip(72 * 2 + 39);
         x.flip(72 * 3 + 39);
         x.take(9600);
@@ -748,7 +756,7 @@ public final class PromiseTest {
         due("what 3", x.turn(0, 3), -2);
         due("what -1", x.turn(0, -1), -2);
         // each second header wrong: NEAR, HUNT, NEAR, HUNT ..
-        CellFinder y = small();
+        Finder y = small();
         y.rest(20);
         y.rest(20);
         y.rest(16);
@@ -764,7 +772,7 @@ public final class PromiseTest {
     }
 
     static void promise24() {
-        CellFinder x = sending(5);
+        Finder x = sending(5);
         due("all", x.lost(), 5);
         x.take(72 * 3);
         due("lost", x.lost(), 3);
@@ -772,21 +780,21 @@ public final class PromiseTest {
         due("the first is lost", x.lost(), 1);
         x.fresh();
         due("fresh", x.lost(), 5);
-        CellFinder y = sending(20);
+        Finder y = sending(20);
         y.take(9600);
         due("only those kept", y.lost(), 8);
-        CellFinder z = small();
+        Finder z = small();
         z.rest(9);
         z.take(9600);
         due("like ones", z.lost(), 8);
-        due("nothing sent", new CellFinder().lost(), 0);
-        CellFinder v = sending(64);
+        due("nothing sent", new Finder().lost(), 0);
+        Finder v = sending(64);
         v.take(9600);
         due("the last of 64", v.lost(), 52);
     }
 
     static void promise25() {
-        CellFinder x = sending(4);
+        Finder x = sending(4);
         x.take(5);
         due("look(0)", x.look(0), 0);
         due("look(34)", x.look(34), 0);
@@ -803,7 +811,7 @@ public final class PromiseTest {
     }
 
     static void promise26() {
-        CellFinder x = small();
+        Finder x = small();
         x.rest(4);
         due("until(0)", x.until(0), 0);
         due("until(1)", x.until(1), 40);
@@ -818,16 +826,16 @@ public final class PromiseTest {
         due("HUNT", x.until(0), 12);
         due("then SURE", x.until(2), 72 * 3 + 40 - 100);
         due("AT", x.told(1), 100);
-        CellFinder y = sending(1);
+        Finder y = sending(1);
         due("ends ahead of it", y.until(2), -1);
-        due("nothing there", new CellFinder().until(2), -1);
-        CellFinder z = sending(2);
+        due("nothing there", new Finder().until(2), -1);
+        Finder z = sending(2);
         z.drop(112, 32);
         due("with the last bit", z.until(2), 112);
         z.drop(111, 1);
         due("one bit short", z.until(2), -1);
         // on paper it goes on just as it would: hunting by steps, nearly sure, seeing
-        CellFinder v = sending(2);
+        Finder v = sending(2);
         v.slip(0, 3, 0);
         v.terms(6, 5);
         v.take(2);
@@ -838,7 +846,7 @@ public final class PromiseTest {
     }
 
     static void promise27() {
-        CellFinder x = sending(6);
+        Finder x = sending(6);
         x.take(150);
         due("header bit: delivered", x.would(72 * 3 + 4, 0), 5);
         due("mended", x.would(72 * 3 + 4, 1), 1);
@@ -847,7 +855,7 @@ public final class PromiseTest {
         due("STATE", x.would(72 * 3 + 4, 4), 2);
         due("strange", x.would(72 * 3 + 4, 5), 0);
         due("load bit: strange", x.would(72 * 3 + 40, 5), 2);
-        CellFinder y = sending(6);
+        Finder y = sending(6);
         y.terms(1, 3);
         y.flip(72 * 2 + 5);
         y.take(72 * 2 + 50);
@@ -855,7 +863,7 @@ public final class PromiseTest {
         due("GOOD: delivered", y.would(72 * 3 + 4, 0), 4);
         y.terms(1, 2);
         due("WRONG goes on", y.would(72 * 3 + 4, 3), 1);
-        CellFinder z = small();
+        Finder z = small();
         z.terms(2, 2);
         z.rest(4);
         z.take(120);
@@ -878,28 +886,28 @@ public final class PromiseTest {
     }
 
     static void promise28() {
-        CellFinder x = sending(6);
+        Finder x = sending(6);
         x.take(112 + 32);
         // nothing is mended: the first bit of the header is as bad as all of it
         x.terms(3, 0);
         due("worst", x.worst(), 144);
-        CellFinder y = sending(6);
+        Finder y = sending(6);
         y.take(112);
         y.terms(3, 0);
         due("behind the load", y.worst(), 144);
         due("AT", y.told(1), 112);
-        CellFinder z = sending(6);
+        Finder z = sending(6);
         z.take(112);
         due("all alike: the first", z.worst(), 112);
-        due("none there", new CellFinder().worst(), -1);
-        CellFinder v = small();
+        due("none there", new Finder().worst(), -1);
+        Finder v = small();
         v.bits(3, 0);
         v.take(2);
         due("only one", v.worst(), 2);
         v.take(1);
         due("none left", v.worst(), -1);
         // 48 bits and no more: the header begins behind them
-        CellFinder w = small();
+        Finder w = small();
         w.terms(0, 10);
         w.terms(3, 0);
         for (int i = 0; i < 5; i++) {
@@ -912,11 +920,11 @@ public final class PromiseTest {
     }
 
     static void promise29() {
-        CellFinder x = sending(8);
+        Finder x = sending(8);
         due("from HUNT, header lost", x.regained(1), 72 * 2 + 40 - 1);
         x.take(72 * 3);
         due("SURE: a whole cell less", x.regained(72), -1);
-        CellFinder y = sending(8);
+        Finder y = sending(8);
         y.terms(1, 1);
         y.take(216);
         // behind 3 lost bits the header at 216 is read three bits late and looks wrong;
@@ -928,10 +936,10 @@ public final class PromiseTest {
         due("all", y.regained(360), -1);
         due("nothing lost", y.told(0), 576);
         due("AT", y.told(1), 216);
-        due("none there", new CellFinder().regained(1), -3);
-        CellFinder z = sending(16);
+        due("none there", new Finder().regained(1), -3);
+        Finder z = sending(16);
         due("400", z.regained(400), 72 * 7 + 40 - 400);
-        CellFinder v = small();
+        Finder v = small();
         v.bits(1, 0);
         v.rest(2);
         v.drop(113, 32);
@@ -942,7 +950,7 @@ public final class PromiseTest {
     }
 
     static void promise30() {
-        CellFinder x = sending(5);
+        Finder x = sending(5);
         x.take(112);
         // load of cell 1 is 112 to 143, of cell 2 184 to 215, of cell 3 256 on
         due("how many", x.spread(113, -1), 2);
@@ -964,7 +972,7 @@ public final class PromiseTest {
     }
 
     static void promise31() {
-        CellFinder x = small();
+        Finder x = small();
         x.bits(5, 0);
         x.rest(4);
         due("all", x.rights(0, 293, -1), 4);
@@ -992,7 +1000,7 @@ public final class PromiseTest {
     }
 
     static void promise32() {
-        CellFinder x = small();
+        Finder x = small();
         x.bits(5, 0);
         x.rest(4);
         due("phase", x.phase(0), 5);
@@ -1005,12 +1013,12 @@ public final class PromiseTest {
         due("how many", x.phase(1), 3);
         due("what 2", x.phase(2), -2);
         due("what -1", x.phase(-1), -2);
-        CellFinder y = new CellFinder();
+        Finder y = new Finder();
         due("none", y.phase(0), -1);
         due("none", y.phase(1), -1);
         y.feed(0, 0, 0, 0, 0);
         due("none looks right", y.phase(1), -1);
-        CellFinder v = small();
+        Finder v = small();
         v.bits(1, 1);
         v.rest(1);
         v.drop(41, 32);
@@ -1018,7 +1026,7 @@ public final class PromiseTest {
         v.drop(40, 1);
         due("one bit short", v.phase(0), -1);
         // two phases with two each: the first of like ones, though the other comes ahead of it
-        CellFinder z = small();
+        Finder z = small();
         z.bits(10, 0);
         z.rest(2);
         z.drop(150, 4);
@@ -1033,7 +1041,7 @@ public final class PromiseTest {
     }
 
     static void promise33() {
-        CellFinder x = sending(10);
+        Finder x = sending(10);
         x.take(112);
         // two wrong headers in a row: from 3 on it isn't lost by them
         x.flip(72 * 4 + 1);
@@ -1049,16 +1057,16 @@ public final class PromiseTest {
         due("terms stay", x.told(11), 2);
         due("AT", x.told(1), 112);
         // from HUNT on a smaller DELTA delivers more
-        CellFinder y = sending(10);
+        Finder y = sending(10);
         y.terms(2, 9);
         due("DELTA", y.tuned(2), 1);
         // strange ones count twice against: by stages() all loads are other ones till it is sure
-        CellFinder z = sending(2);
+        Finder z = sending(2);
         z.stages(2047, -1);
         due("one strange", z.tuned(2), 2);
-        due("nothing there", new CellFinder().tuned(2), 1);
+        due("nothing there", new Finder().tuned(2), 1);
         // by MENDS 1 one more is delivered as sent, one as a strange one: twice that is alike
-        CellFinder v = sending(14);
+        Finder v = sending(14);
         v.take(112);
         v.flip(72 * 5 + 1);
         v.flip(72 * 7 + 1);
@@ -1069,7 +1077,7 @@ public final class PromiseTest {
     }
 
     static void promise34() {
-        CellFinder x = small();
+        Finder x = small();
         x.rest(6);
         due("all sure", x.starts(0), 64);
         due("first behind 112, others behind 184 less i", x.starts(1), 112 + 63 * 184 - 63 * 64 / 2);
@@ -1081,7 +1089,7 @@ public final class PromiseTest {
         x.flip(72 + 3);
         due("fell", x.starts(3), 1);
         due("it was sure later", x.starts(2), 256);
-        CellFinder y = small();
+        Finder y = small();
         y.rest(2);
         due("only the first", y.starts(0), 1);
         due("its bits", y.starts(1), 112);
@@ -1089,9 +1097,9 @@ public final class PromiseTest {
         y.take(1);
         due("none", y.starts(0), 0);
         due("none", y.starts(2), 0);
-        due("nothing there", new CellFinder().starts(1), 0);
+        due("nothing there", new Finder().starts(1), 0);
         // FRESH ones, whatever STATE is
-        CellFinder z = small();
+        Finder z = small();
         z.rest(6);
         z.take(72 * 3);
         due("from AT on", z.starts(2), 183);
@@ -1099,7 +1107,7 @@ public final class PromiseTest {
     }
 
     static void promise35() {
-        CellFinder x = new CellFinder();
+        Finder x = new Finder();
         due("check(0)", x.check(0), 85);
         due("check(1)", x.check(1), 7 ^ 85);
         due("check(2)", x.check(2), 14 ^ 85);
@@ -1113,7 +1121,7 @@ public final class PromiseTest {
     }
 
     static void promise36() {
-        CellFinder x = new CellFinder();
+        Finder x = new Finder();
         due("right", x.syndrome(1, 82), 0);
         due("one off", x.syndrome(1, 83), 1);
         due("syndrome(0, 0)", x.syndrome(0, 0), 85);
@@ -1123,7 +1131,7 @@ public final class PromiseTest {
     }
 
     static void promise37() {
-        CellFinder x = new CellFinder();
+        Finder x = new Finder();
         int singles = 0;
         for (int s = 0; s < 256; s++) {
             singles += x.single(s) >= 0 ? 1 : 0;
@@ -1139,7 +1147,7 @@ public final class PromiseTest {
     }
 
     static void promise38() {
-        CellFinder x = sending(8);
+        Finder x = sending(8);
         x.terms(1, 1);
         x.take(216);
         // by 1 to 64 lost ones it hunts at 256 and n, and is sure again behind 400
@@ -1149,13 +1157,13 @@ public final class PromiseTest {
         due("what 3", x.latest(3), -2);
         due("what -1", x.latest(-1), -2);
         due("AT", x.told(1), 216);
-        CellFinder y = small();
+        Finder y = small();
         y.bits(10, 0);
         due("NONE", y.latest(0), -1);
         due("NONE", y.latest(1), -1);
         due("none", y.latest(2), 0);
         // rest cells, the first bits of which are lost: only the cell behind counts
-        CellFinder z = small();
+        Finder z = small();
         z.bits(30, 0);
         z.rest(2);
         due("up to 30 lost ones", z.latest(2), 30);
@@ -1164,9 +1172,9 @@ public final class PromiseTest {
     }
 
     static void promise39() {
-        CellFinder x = new CellFinder();
         int all = 0;
         for (int s = 0; s < 256; s++) {
+            Finder x = new Finder();
             int many = x.pairs(s, -1);
             all += many;
             int before = -1;
@@ -1180,21 +1188,23 @@ public final class PromiseTest {
             due("not so many", x.pairs(s, many), -1);
         }
         due("all pairs", all, 780);
+        Finder x = new Finder();
         due("-1", x.pairs(-1, 0), -3);
         due("256", x.pairs(256, 0), -3);
         due("k -2", x.pairs(3, -2), -3);
     }
 
     static void promise40() {
-        CellFinder x = new CellFinder();
         NaiveFinder naive = new NaiveFinder();
         for (int s = 0; s < 256; s++) {
+            Finder x = new Finder();
             int many = naive.nearest(s, -1);
             due("nearest(" + s + ", -1)", x.nearest(s, -1), many);
             for (int k = 0; k <= many; k++) {
                 due("nearest(" + s + ", " + k + ")", x.nearest(s, k), naive.nearest(s, k));
             }
         }
+        Finder x = new Finder();
         due("-1", x.nearest(-1, 0), -3);
         due("256", x.nearest(256, 0), -3);
         due("k -2", x.nearest(3, -2), -3);
@@ -1202,7 +1212,7 @@ public final class PromiseTest {
     }
 
     static void promise41() {
-        CellFinder x = new CellFinder();
+        Finder x = new Finder();
         int header = 0xDEADBEEF;
         int check = x.check(header);
         due("right", x.mending(header, check, 0), 0);
@@ -1229,7 +1239,7 @@ public final class PromiseTest {
     }
 
     static void promise42() {
-        CellFinder x = new CellFinder();
+        Finder x = new Finder();
         long all = 0;
         NaiveFinder naive = new NaiveFinder();
         for (int w = 0; w <= 40; w++) {
@@ -1242,7 +1252,7 @@ public final class PromiseTest {
     }
 
     static void promise43() {
-        CellFinder x = new CellFinder();
+        Finder x = new Finder();
         NaiveFinder naive = new NaiveFinder();
         for (int w = 0; w <= 40; w++) {
             for (int what = 0; what < 3; what++) {
@@ -1256,7 +1266,7 @@ public final class PromiseTest {
     }
 
     static void promise44() {
-        CellFinder x = new CellFinder();
+        Finder x = new Finder();
         NaiveFinder naive = new NaiveFinder();
         for (int w = 0; w <= 40; w++) {
             for (int what = 0; what < 5; what++) {
@@ -1271,15 +1281,14 @@ public final class PromiseTest {
     }
 
     static void promise45() {
-        CellFinder x = new CellFinder();
         NaiveFinder naive = new NaiveFinder();
         for (int term = 1; term <= 15; term++) {
-            x.terms(1, term);
-            x.terms(2, term);
+            Finder x = byTerm(term);
             naive.terms(1, term);
             naive.terms(2, term);
             for (int n = 0; n <= 7; n++) {
                 for (int w = 0; w <= 256; w += term < 8 ? 1 : 64) {
+                    x = x.callsLeft() < 10 ? byTerm(term) : x;
                     for (int i = 0; i < 10; i++) {
                         long want = naive.odds(i / 5, n, w, i % 5);
                         due("odds(" + i / 5 + ", " + n + ", " + w + ", " + i % 5 + ")", x.odds(i / 5, n, w, i % 5), want);
@@ -1287,6 +1296,7 @@ public final class PromiseTest {
                 }
             }
         }
+        Finder x = new Finder();
         due("which 2", x.odds(2, 0, 0, 0), -2);
         due("which -1", x.odds(-1, 0, 0, 0), -2);
         due("what 5", x.odds(0, 0, 0, 5), -2);
@@ -1298,19 +1308,19 @@ public final class PromiseTest {
     }
 
     static void promise46() {
-        CellFinder x = new CellFinder();
         NaiveFinder naive = new NaiveFinder();
         for (int term = 1; term <= 15; term++) {
-            x.terms(1, term);
-            x.terms(2, term);
+            Finder x = byTerm(term);
             naive.terms(1, term);
             naive.terms(2, term);
             for (int w = 0; w <= 256; w++) {
+                x = x.callsLeft() < 4 ? byTerm(term) : x;
                 for (int i = 0; i < 4; i++) {
                     due("mean(" + i / 2 + ", " + w + ", " + i % 2 + ")", x.mean(i / 2, w, i % 2), naive.mean(i / 2, w, i % 2));
                 }
             }
         }
+        Finder x = byTerm(15);
         due("q is 0", x.mean(0, 256, 0), -5);
         due("p is 0", x.mean(1, 0, 0), -5);
         due("p is 1", x.mean(1, 256, 0), 0x40300000);
@@ -1322,19 +1332,18 @@ public final class PromiseTest {
     }
 
     static void promise47() {
-        CellFinder x = new CellFinder();
         NaiveFinder naive = new NaiveFinder();
         for (int term = 1; term <= 9; term++) {
-            x.terms(1, term);
-            x.terms(2, term);
+            Finder x = byTerm(term);
             naive.terms(1, term);
             naive.terms(2, term);
             for (int w = 0; w <= 256; w++) {
+                x = x.callsLeft() < 2 ? byTerm(term) : x;
                 due("half(0, " + w + ")", x.half(0, w), naive.half(0, w));
                 due("half(1, " + w + ")", x.half(1, w), naive.half(1, w));
             }
         }
-        x.terms(1, 1);
+        Finder x = byTerm(1);
         due("just a half", x.half(0, 128), 1);
         due("just below", x.half(0, 129), 2);
         due("none", x.half(0, 256), -1);
@@ -1345,7 +1354,7 @@ public final class PromiseTest {
     }
 
     static void promise48() {
-        CellFinder x = sending(3);
+        Finder x = sending(3);
         x.take(50);
         due("bits", x.told(0), 216);
         due("AT", x.told(1), 50);

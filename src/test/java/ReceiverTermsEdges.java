@@ -1008,4 +1008,43 @@ final class ReceiverTermsEdges extends Edges {
         due(x.delivered(0, 0), 108);
         due(x.turn(0, 0), 72 * 7 + 40);
     }
+
+    @Says("It is FRESH: STATE HUNT, nothing taken (AT stays), nothing DELIVERED, no TURNS, all counts 0.")
+    void freshAtEachMoment() {
+        // in HUNT, in NEAR, within a GOOD cell, SEEING with WRONG 1 and 2, lost again
+        Run run = x -> {
+            plain(x, 7);
+            x.terms(1, 3);
+            flipAll(x, 72 * 2 + 1, 72 * 3 + 1, 72 * 4 + 1);
+        };
+        for (int at = 0; at <= 72 * 7; at++) {
+            Finder x = behind(run);
+            if (at > 0) {
+                x.take(at);
+            }
+            int had = x.count(3);
+            due(x.fresh(), had);
+            for (int what = 0; what <= 10; what++) {
+                due(x.state(what), what == 7 ? NONE : 0);
+            }
+            for (int what = 0; what <= 13; what++) {
+                due(x.count(what), 0);
+            }
+            due(x.told(1), at);
+            // it goes on as a new one would with the bits that are left
+            Finder y = behind(run);
+            if (at > 0) {
+                for (int left = at; left > 0; left -= 400) {
+                    y.drop(0, Math.min(left, 400));
+                }
+            }
+            due(x.take(9600), y.take(9600));
+            for (int what = 0; what <= 10; what++) {
+                due(x.state(what), y.state(what));
+            }
+            for (int what = 0; what <= 13; what++) {
+                due(x.count(what), y.count(what));
+            }
+        }
+    }
 }
