@@ -1435,7 +1435,7 @@ public final class CellFinder {
         /** Leaves the first row of the fewest bits behind, for chosen(). */
         int fewestFor(int syndrome) {
             int many = 0;
-            while (many < MOST && !canChoose(syndrome, 0, many, 0)) {
+            while (many < MOST && !canChoose(shares, row, syndrome, 0, many, 0)) {
                 many++;
             }
             return many;
@@ -1445,13 +1445,13 @@ public final class CellFinder {
             return k >= 0 && k < row.length ? row[k] : NONE;
         }
 
-        private boolean canChoose(int syndrome, int from, int many, int depth) {
-            if (depth >= many || depth >= row.length) {
+        private static boolean canChoose(int[] shares, int[] row, int syndrome, int from, int many, int depth) {
+            if (depth < 0 || depth >= many || depth >= row.length) {
                 return syndrome == 0;
             }
-            for (int bit = from; bit < HEAD_BITS; bit++) {
+            for (int bit = Math.max(0, from); bit < shares.length; bit++) {
                 row[depth] = bit;
-                if (canChoose(syndrome ^ shareOf(bit), bit + 1, many, depth + 1)) {
+                if (canChoose(shares, row, syndrome ^ shares[bit], bit + 1, many, depth + 1)) {
                     return true;
                 }
             }

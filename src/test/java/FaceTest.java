@@ -1,9 +1,11 @@
+import java.io.IOException;
 import java.lang.reflect.Constructor;
 import java.lang.reflect.Field;
 import java.lang.reflect.Method;
 import java.lang.reflect.Modifier;
 import java.nio.file.Files;
 import java.nio.file.Path;
+import java.util.ArrayList;
 import java.util.List;
 import java.util.Set;
 import java.util.TreeSet;
@@ -21,6 +23,7 @@ public final class FaceTest {
         "->", "::", "Double.", "Float.", "StrictMath", "System.out", "System.nanoTime", "System.currentTimeMillis", "Random",
         "Thread", "synchronized", "assert ", "finally", "catch", "throw ", "Exact(", "package ", "toString(", "hashCode(",
         ".equals(", "record ", "protected ", "double[]", "static {", "NaN", "instanceof", "var ", "stream(");
+    private static final Path DOC = Path.of("../shared/DOC.md");
     private static int wrong;
 
     private static void due(String what, boolean holds) {
@@ -33,6 +36,7 @@ public final class FaceTest {
     public static void main(String[] args) throws Exception {
         members();
         String source = Files.readString(Path.of(args.length > 0 ? args[0] : "src/main/java/CellFinder.java"));
+        block(source);
         words(source);
         lengths(source);
         sizes(CellFinder.class);
@@ -86,6 +90,24 @@ public final class FaceTest {
         Constructor<?>[] made = c.getDeclaredConstructors();
         due("one constructor", made.length == 1 && made[0].getParameterCount() == 0 && Modifier.isPublic(made[0].getModifiers()));
         due("NONE", CellFinder.NONE == -1);
+    }
+
+    /** What is public in the class is what the document's code block prints, name by name and one behind the other. */
+    private static void block(String source) throws IOException {
+        String doc = Files.readString(DOC);
+        int from = doc.indexOf("```java\n") + "```java\n".length();
+        String printed = doc.substring(from, doc.indexOf("```", from));
+        due("the document's block: " + publicLines(printed), publicLines(printed).equals(publicLines(source)));
+    }
+
+    private static List<String> publicLines(String text) {
+        List<String> lines = new ArrayList<>();
+        for (String line : text.split("\n")) {
+            if (line.matches("(    )?public .*")) {
+                lines.add(line.trim().replaceAll(" ?[{;]$", ""));
+            }
+        }
+        return lines;
     }
 
     private static void sizes(Class<?> c) {
